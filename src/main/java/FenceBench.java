@@ -797,7 +797,11 @@ public final class FenceBench {
     private static final class Lengths {
         // CHAINS by length, then RINGS by length: the order in which kinds are told.
         private final int[] numbers = new int[2 * (MOST_LENGTH + 1)];
+        // Of each kind that is there: its place in the numbers, its length, what leaving the last
+        // fields of one costs (0 if it can't be), and how many HEAPS before stands one less of it.
         private final int[] place = new int[MOST_KINDS];
+        private final int[] length = new int[MOST_KINDS];
+        private final int[] cost = new int[MOST_KINDS];
         private final int[] step = new int[MOST_KINDS];
         private final int[] digit = new int[MOST_KINDS];
         private int different;
@@ -812,17 +816,21 @@ public final class FenceBench {
             fresh = false;
         }
 
-        private int placeOf(boolean ring, int length) {
-            return (ring ? MOST_LENGTH + 1 : 0) + length;
+        private int placeOf(boolean ring, int fields) {
+            return (ring ? MOST_LENGTH + 1 : 0) + fields;
         }
 
-        boolean hasRoom(boolean ring, int length, int n) {
-            int there = numbers[placeOf(ring, length)];
+        private boolean isRing(int at) {
+            return at > MOST_LENGTH;
+        }
+
+        boolean hasRoom(boolean ring, int fields, int n) {
+            int there = numbers[placeOf(ring, fields)];
             return there + n <= MOST_OF_ONE_KIND && (there > 0 || different < MOST_KINDS);
         }
 
-        int put(boolean ring, int length, int n) {
-            int at = placeOf(ring, length);
+        int put(boolean ring, int fields, int n) {
+            int at = placeOf(ring, fields);
             if (numbers[at] == 0) {
                 different++;
             }
@@ -854,7 +862,7 @@ public final class FenceBench {
             for (int k = 0; k < kinds; k++) {
                 if (openingAt(k, heaps - 1) == whole()) {
                     if (found == i) {
-                        return nameOf(place[k]);
+                        return 10 * length[k] + (isRing(place[k]) ? 1 : 0);
                     }
                     found++;
                 }
@@ -862,25 +870,29 @@ public final class FenceBench {
             return NONE;
         }
 
-        private int nameOf(int at) {
-            return at > MOST_LENGTH ? (at - MOST_LENGTH - 1) * 10 + 1 : at * 10;
-        }
-
         /**
-         * Numbers the HEAPS within this one: one less of kind k is step[k] numbers before. More
-         * than MOST_HEAPS of them are not counted to the end.
+         * Numbers the HEAPS within this one. More than MOST_HEAPS of them are not counted to the
+         * end; fifteen kinds make more already, so the bound of MOST_KINDS is never met here.
          */
         private void layOut() {
             kinds = 0;
-            heaps = different <= MOST_KINDS ? 1 : MOST_HEAPS + 1;
+            heaps = 1;
             for (int at = 0; at < numbers.length && heaps <= MOST_HEAPS; at++) {
                 if (numbers[at] > 0 && kinds < MOST_KINDS) {
-                    place[kinds] = at;
-                    step[kinds] = heaps;
-                    heaps *= numbers[at] + 1;
-                    kinds++;
+                    layOutKind(at);
                 }
             }
+        }
+
+        private void layOutKind(int at) {
+            boolean ring = isRing(at);
+            int fields = ring ? at - placeOf(true, 0) : at;
+            place[kinds] = at;
+            length[kinds] = fields;
+            cost[kinds] = fields < (ring ? 4 : 3) ? 0 : ring ? 8 : 4;
+            step[kinds] = heaps;
+            heaps *= numbers[at] + 1;
+            kinds++;
         }
 
         private void fillAll() {
@@ -918,12 +930,10 @@ public final class FenceBench {
 
         /** What it is worth to open one of kind k in HEAP h, which has one. */
         private int openingAt(int k, int h) {
-            boolean ring = place[k] > MOST_LENGTH;
-            int length = ring ? place[k] - MOST_LENGTH - 1 : place[k];
             int rest = v[h - step[k]];
-            int taken = length + rest;
-            if (length >= (ring ? 4 : 3)) {
-                taken = Math.max(taken, length - (ring ? 8 : 4) - rest);
+            int taken = length[k] + rest;
+            if (cost[k] > 0) {
+                taken = Math.max(taken, length[k] - cost[k] - rest);
             }
             return -taken;
         }

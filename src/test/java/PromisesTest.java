@@ -138,10 +138,12 @@ public final class PromisesTest {
         due("worth()", x.worth(), 1);
     }
 
-    private static void clearingForgetsWorth() {
+    private static void clearingForgetsWhatWasWorkedOut() {
         FenceBench x = chain(3);
         due("worth()", x.worth(), -3);
+        due("simple()", x.simple(), -3);
         x.clear();
+        dueEmptyMeadow(x);
         addFields(x, 4);
         for (int f = 0; f < 4; f++) {
             x.side(f, NONE);
@@ -716,7 +718,10 @@ public final class PromisesTest {
         }
         due("a 31st kind", x.heap(false, 33, 1), NONE);
         x.empty();
-        due("a kind behind empty()", x.heap(false, 33, 1), 1);
+        for (int length = 33; length <= 62; length++) {
+            due("one of 30 kinds behind empty()", x.heap(false, length, 1), 1);
+        }
+        due("a 31st kind behind empty()", x.heap(false, 63, 1), NONE);
     }
 
     private static void heaping() {
@@ -793,6 +798,13 @@ public final class PromisesTest {
         due("open(0)", x.open(0) == NONE, false);
         x.heap(true, 2, 1);
         dueUntoldValue(x);
+        x.empty();
+        // 3 times 59 times 113 are 20,001.
+        x.heap(false, 1, 2);
+        x.heap(false, 2, 58);
+        x.heap(false, 3, 100);
+        x.heap(false, 3, 12);
+        dueUntoldValue(x);
         FenceBench y = new FenceBench();
         for (int length = 1; length <= 14; length++) {
             y.heap(true, length + 1, 1);
@@ -834,7 +846,7 @@ public final class PromisesTest {
 
     public static void main(String[] args) {
         promise = 1; aNewObject();
-        promise = 2; clearing(); clearingForgetsWorth();
+        promise = 2; clearing(); clearingForgetsWhatWasWorkedOut();
         promise = 3; fieldsAdded();
         promise = 4; sidesAdded(); sidesUpTo500();
         promise = 5; grids();
