@@ -114,7 +114,7 @@ public final class HeapEdgesTest {
         Edges.Change kindMore = x -> x.with(HeapEdgesTest::withHeaps20000).heap(true, 200, 1);
         refused("value() of 40,000", THROWN, kindMore, Watched::value);
 
-        edges.sentence("Terms 2", "multiplied, are not above 20,000, by wrap-around either");
+        edges.sentence("Terms 2, with a product that wraps around", "multiplied, are not above 20,000");
         for (int kinds = 2; kinds <= 30; kinds++) {
             Watched x = new Watched();
             for (int k = 0; k < kinds; k++) {
@@ -273,7 +273,7 @@ public final class HeapEdgesTest {
     }
 
     private static void promise26() {
-        edges.sentence("Promise 26", "as give(): CHAINS ahead of RINGS, rising: 10 times the length, and 1 of RINGS");
+        edges.sentence("Promise 26", "The i-th kind of length that is best to open in the HEAP, as give().");
         due("open(0) of a chain of 1", Edges.made(x -> x.heap(false, 1, 1)).open(0), 10);
         due("open(0) of a chain of 200", Edges.made(x -> x.heap(false, 200, 1)).open(0), 2000);
         due("open(0) of a ring of 2", Edges.made(x -> x.heap(true, 2, 1)).open(0), 21);

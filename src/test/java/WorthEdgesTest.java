@@ -99,7 +99,7 @@ public final class WorthEdgesTest {
         due("worth() of a chain of 16", Edges.made(x -> x.chain(16)).worth(), UNTOLD);
         due("worth() of 12 by 12", Edges.made(x -> x.grid(12, 12)).worth(), UNTOLD);
 
-        edges.sentence("Promise 15", "UNTOLD with more than 16 OPEN SIDES, drawn and undone.");
+        edges.sentence("Promise 15, behind draws and undone ones", "UNTOLD with more than 16 OPEN SIDES.");
         Watched x = Edges.made(y -> ones(y, 18));
         x.draw(17);
         due("worth() of 18 with 17 open", x.worth(), UNTOLD);
@@ -245,7 +245,7 @@ public final class WorthEdgesTest {
         due("simple() with 5", besideNine(x -> x.chainWithTwoLoose(5)).simple(), 5 - 8 + 9);
         due("simple() with 2 and 2", besideNine(x -> pairs(x, 2)).simple(), 4 - 9);
 
-        edges.sentence("Terms 2", "the greatest of T + R; T - 4 - R; T - 8 - R");
+        edges.sentence("Terms 2", "R is V of the HEAP of all others: the greatest of T + R");
         Edges.Change both = x -> {
             x.chainWithTwoLoose(4);
             x.chainWithOneLoose(2);
@@ -263,7 +263,7 @@ public final class WorthEdgesTest {
         };
         due("simple() with four and one", besideNine(fourAndOne).simple(), 5 - 8 + 9);
 
-        edges.sentence("Terms 2", "T - 4 - R; T - 8 - R, while there is one that can be left so");
+        edges.sentence("Terms 2, when draws shorten them", "T - 8 - R, if one with LOOSE 2 has 4 or more");
         Watched fewer = besideNine(x -> x.chainWithOneLoose(2));
         due("simple() with one loose of 2", fewer.simple(), 2 - 4 + 9);
         fewer.draw(0);
@@ -338,7 +338,7 @@ public final class WorthEdgesTest {
     }
 
     private static void promise18Kinds() {
-        edges.sentence("Terms 2", "(V is told of HEAPS of 30 kinds of length at most ..), in a MEADOW");
+        edges.sentence("Terms 2, in a MEADOW", "V is told of HEAPS of 30 kinds of length at most");
         Watched x = new Watched();
         PlainHeap plain = new PlainHeap();
         for (int length = 1; length <= 7; length++) {
